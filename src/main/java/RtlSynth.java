@@ -66,8 +66,8 @@ public final class RtlSynth {
     private int openStatement;
     private boolean compiled;
     private int cycleCount;
-    private final int[] kinds = new int[TOKEN_SLOTS];
-    private final int[] values = new int[TOKEN_SLOTS];
+    private final int[] kinds = new int[MAX_TOKENS];
+    private final int[] values = new int[MAX_TOKENS];
     private final int[] registers = new int[REGISTERS];
     private final int[] inputs = new int[INPUTS];
     private final boolean[] wireDefined = new boolean[WIRES];
